@@ -1,0 +1,43 @@
+/** Counts the answers that are not as due, and ends a test with exit code 1 if there was one. */
+final class Checks {
+    private int asked = 0;
+    private int wrong = 0;
+
+    void due(String call, long got, long want) {
+        asked++;
+        if (got != want) {
+            wrong++;
+            System.out.println(call + " answered " + got + ", due is " + want);
+        }
+    }
+
+    void due(String what, boolean holds) {
+        due(what, holds ? 1 : 0, 1);
+    }
+
+    /** Everything of the object that can be asked for without changing it. */
+    static String seen(PairLegaliser x) {
+        StringBuilder all = new StringBuilder();
+        for (int r = 0; r < 6; r++) {
+            all.append(x.get(r)).append(' ').append(x.sign(r)).append(' ').append(x.ones(r)).append(", ");
+        }
+        all.append(x.size()).append(' ').append(x.ending()).append(' ').append(x.worked());
+        return all.append(' ').append(x.total()).toString();
+    }
+
+    void same(String call, PairLegaliser x, String before) {
+        String after = seen(x);
+        if (!after.equals(before)) {
+            System.out.println("before: " + before);
+            System.out.println("after:  " + after);
+        }
+        due(call + " changes nothing", after.equals(before));
+    }
+
+    void end(String test) {
+        System.out.println(test + ": " + asked + " answers, " + wrong + " not as due");
+        if (asked == 0 || wrong != 0) {
+            System.exit(1);
+        }
+    }
+}
