@@ -14,8 +14,7 @@ public final class LanguageTest {
         "\\b(?!PairLegaliser\\b)[A-Z]\\w*[a-z]\\w*\\b",
         "->|::|\"|@",
         "\\]\\s*\\[",
-        "\\bstatic\\s*\\{",
-        "\\bstatic final (?!int |long )\\w+[^(]*=",
+        "\\bstatic (?!final (int|long) \\w+ =|\\w+ \\w+\\()\\S+",
         "(?m)^(?!    private final ).*\\bnew\\b",
         "\\bnew\\s+(?!(int|long|short|byte|char|boolean)\\[[A-Z]+\\];)",
         "(?m)^    (?!public |private |//|})\\S"};
