@@ -15,6 +15,24 @@ final class Checks {
         due(what, holds ? 1 : 0, 1);
     }
 
+    /** A test of its own for one sentence of the document; whatever fails in it is told with the sentence's words. */
+    void sentence(String words, Runnable test) {
+        int askedBefore = asked;
+        int wrongBefore = wrong;
+        try {
+            test.run();
+        } catch (RuntimeException thrown) {
+            wrong++;
+            System.out.println("a call threw " + thrown);
+        }
+        if (asked == askedBefore) {
+            due("the sentence is asked for", false);
+        }
+        if (wrong != wrongBefore) {
+            System.out.println("  does not hold: " + words);
+        }
+    }
+
     /** Everything of the object that can be asked for without changing it. */
     static String seen(PairLegaliser x) {
         StringBuilder all = new StringBuilder();

@@ -17,7 +17,10 @@ public final class LanguageTest {
         "\\bstatic (?!final (int|long) \\w+ =|\\w+ \\w+\\()\\S+",
         "(?m)^(?!    private final ).*\\bnew\\b",
         "\\bnew\\s+(?!(int|long|short|byte|char|boolean)\\[[A-Z]+\\];)",
-        "(?m)^    (?!public |private |//|})\\S"};
+        "(?m)^    (?!public |private |//|})\\S",
+        "\\w\\([^()]*\\w\\(",
+        "\\((\\w+ \\w+, ){7}",
+        "(?m)^    (public|private)[^;\n]*\\{\n(?!    \\})(.*\n(?!    \\})){60}"};
 
     public static void main(String[] args) throws IOException {
         String source = Files.readString(Path.of("src/main/java/PairLegaliser.java"));
