@@ -1,7 +1,26 @@
 /** Counts the answers that are not as due, and ends a test with exit code 1 if there was one. */
 final class Checks {
+    private static final long MOST_SECONDS = 300;
+
     private int asked = 0;
     private int wrong = 0;
+
+    Checks() {
+        Thread watch = new Thread(Checks::endLate);
+        watch.setDaemon(true);
+        watch.start();
+    }
+
+    /** A call that fails to end must fail its test, not hold it up; no test needs more than a few seconds. */
+    private static void endLate() {
+        try {
+            Thread.sleep(MOST_SECONDS * 1000);
+        } catch (InterruptedException stopped) {
+            return;
+        }
+        System.out.println("not ended after " + MOST_SECONDS + " seconds: a call does not end");
+        Runtime.getRuntime().halt(1);
+    }
 
     void due(String call, long got, long want) {
         asked++;
